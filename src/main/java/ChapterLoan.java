@@ -1303,6 +1303,7 @@ public final class ChapterLoan {
         private int m;
         private int others;
         private int week;
+        private int untold;
 
         Search(Facts facts) {
             this.facts = facts;
@@ -1314,6 +1315,7 @@ public final class ChapterLoan {
             others = itsOthers;
             week = itsWeek;
             closing = toClose;
+            untold = facts.size - one.size;
             length = -1;
             System.arraycopy(one.toldIn, 0, toldIn, 0, MOST_FACTS);
             Arrays.fill(seen, NEVER);
@@ -1326,7 +1328,7 @@ public final class ChapterLoan {
                 System.arraycopy(row, 0, best, 0, MOST_FACTS);
                 length = depth;
             }
-            if (depth >= MOST_FACTS || closing && length >= 0 && depth + 1 >= length || wasSeen(book)) {
+            if (depth >= MOST_FACTS || isAsGoodAsCanBe(depth) || wasSeen(book)) {
                 return;
             }
             int may = facts.mayTell(kind, m, book, others);
@@ -1340,6 +1342,11 @@ public final class ChapterLoan {
                     }
                 }
             }
+        }
+
+        /** Whether no row that goes on from one of a length can better what was found. */
+        private boolean isAsGoodAsCanBe(int depth) {
+            return closing ? length >= 0 && depth + 1 >= length : length >= untold;
         }
 
         private boolean isBetter(int depth, int book) {
@@ -1358,7 +1365,7 @@ public final class ChapterLoan {
                 return true;
             }
             long now = lateness(book);
-            if (seen[book] != NEVER && isAllLess(now, seen[book])) {
+            if (seen[book] != NEVER && isNoLater(now, seen[book])) {
                 return true;
             }
             seen[book] = now;
@@ -1377,9 +1384,9 @@ public final class ChapterLoan {
             return all;
         }
 
-        private static boolean isAllLess(long now, long then) {
+        private static boolean isNoLater(long now, long earlier) {
             for (int f = 0; f < MOST_FACTS; f++) {
-                if ((now >> 4 * f & 15) > (then >> 4 * f & 15)) {
+                if ((now >> 4 * f & 15) > (earlier >> 4 * f & 15)) {
                     return false;
                 }
             }
