@@ -710,6 +710,7 @@ public final class PromisesTest {
         x.explain(0, 2, 2);
         served(x, 0);
         due("two are due at once", x.closed(0, -1), NONE);
+        servedOtherwise();
         ChapterLoan y = new ChapterLoan();
         y.fact(192, 0);
         y.fact(128, 0);
@@ -720,6 +721,16 @@ public final class PromisesTest {
         served(y, 0, 0, 1);
         y.become(0, 0);
         served(y, 0, 2);
+    }
+
+    /** The same FACTS in another order: 0 first leaves too few WEEKS for what explains it. */
+    private static void servedOtherwise() {
+        ChapterLoan x = town(3, 0);
+        x.fact(6, 0);
+        x.fact(0, 0);
+        x.explain(0, 2, 3);
+        x.explain(1, 9, 4);
+        served(x, 0, 1, 0, 2, 3, 4);
     }
 
     private static void closed() {
@@ -1275,7 +1286,9 @@ public final class PromisesTest {
             due("ofFact(0, " + what + ")", x.ofFact(0, what), fact[what]);
         }
         due("KIND", x.ofDebtor(0, 0) * 10 + x.ofDebtor(1, 0), 3);
-        due("BOOK", x.book(1, 1, 0) * 100 + x.book(1, 1, 1), 205);
+        due("BOOK at 0", x.book(1, 0, 0) * 100 + x.book(1, 0, 1), 3);
+        due("BOOK at 1", x.book(1, 1, 0) * 100 + x.book(1, 1, 1), 205);
+        due("BOOK at 2", x.book(1, 2, 0), NONE);
         due("PAY", x.law(0, 0, 0, 0), 5);
         due("TRUST", x.law(1, 1, 0, 0), 8);
         due("MEETING", x.since(3, 0), 2);
@@ -1284,7 +1297,7 @@ public final class PromisesTest {
         due("the numbers that wait", x.check(), 2);
         due("SHEETS aren't part of it", x.put(0, 0, 1), NONE);
         due("nor THE TRACE", x.trace(0), 10);
-        due("nor what is told", x.told(4) * 10 + x.told(2), 2);
+        due("nor what is told", x.told(4) * 10 + x.told(2), 3);
         x.weeks(3);
         due("the IMAGE stays", x.restore(), 5);
     }
@@ -1296,10 +1309,10 @@ public final class PromisesTest {
         x.debtor(11, 50);
         x.become(0, 66);
         x.tells(0, 2);
-        x.meeting(0, 0, 1);
-        x.lend(1, 5);
+        x.meeting(0, 1, 4);
+        x.lend(1, 999);
         x.weeks(20);
-        x.pardon(1);
+        due("BROKEN by then", x.pardon(1), 4);
         x.weeks(1);
         x.tells(1, 1);
         x.tells(1, 2);
