@@ -92,6 +92,11 @@ final class Cases {
         compare("the call (only thought)", x, town.get(), 0);
     }
 
+    /** Two objects that are alike in all that can be seen; they are used up by it. */
+    static void alike(ChapterLoan x, ChapterLoan other) {
+        compare("what was done", x, other, 0);
+    }
+
     private static void compare(String what, ChapterLoan x, ChapterLoan untouched, int error) {
         for (int k = 1; k <= 5; k++) {
             due(what + ": told(" + k + ")", x.told(k), untouched.told(k) + (k == error ? 1 : 0));

@@ -198,6 +198,28 @@ public final class KnowsBoundaryTest {
         due("2 met 1 too soon", y.knows(2, 999), 0);
     }
 
+    private static void promise27_manyMeetingsMadeInAnotherOrder() {
+        ChapterLoan x = toldIn3(1);
+        x.meeting(10, 4, 3);
+        x.meeting(8, 3, 2);
+        x.meeting(6, 1, 2);
+        x.meeting(4, 0, 1);
+        int[] since = {3, 4, 6, 8, 10};
+        for (int figure = 0; figure < 5; figure++) {
+            due(figure + " ahead of it", x.knows(figure, since[figure] - 1), 0);
+            due(figure + " by it", x.knows(figure, since[figure]), 1);
+            due("since", x.since(figure, 0), since[figure]);
+        }
+        ChapterLoan y = toldIn3(1);
+        y.meeting(4, 4, 3);
+        y.meeting(6, 3, 2);
+        y.meeting(8, 1, 2);
+        y.meeting(10, 0, 1);
+        for (int figure = 2; figure < 5; figure++) {
+            due(figure + " met too soon", y.knows(figure, 999), 0);
+        }
+    }
+
     private static void promise27_meetingsInWeek999() {
         ChapterLoan x = toldIn3(1);
         x.meeting(999, 0, 1);
@@ -325,6 +347,9 @@ public final class KnowsBoundaryTest {
             ChapterLoan x = toldIn3(1);
             x.meeting(row[0], 0, 1);
             due("met in " + row[0], x.since(1, 0), row[1]);
+            ChapterLoan y = toldIn3(1);
+            y.meeting(row[0], 1, 0);
+            due("met by 1 in " + row[0], y.since(1, 0), row[1]);
         }
     }
 

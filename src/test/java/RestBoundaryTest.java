@@ -551,6 +551,76 @@ public final class RestBoundaryTest {
         due("DEBT", x.ofDebtor(0, 2), 100);
     }
 
+    /** Changes all that an IMAGE keeps, by calls that none refuses. */
+    private static void changeAll(ChapterLoan x) {
+        x.clash(0, 2, 1);
+        x.clash(1, 3, 0);
+        x.explain(0, 1, 2);
+        x.explain(3, 5, 1);
+        x.fact(2, 31);
+        x.pardon(1);
+        x.become(0, 61);
+        x.lend(0, 999);
+        x.become(1, 34);
+        x.lend(1, 30);
+        x.tells(1, 3);
+        x.tells(1, 0);
+        x.debtor(25, 77);
+        x.meeting(0, 2, 3);
+        x.meeting(1, 3, 0);
+        x.weeks(3);
+        x.loose(2);
+        x.seed(4);
+        x.check();
+        x.tell(1);
+        x.text(1);
+        Cases.text(x, 0, "f+4");
+        Cases.text(x, 1, "o+3");
+        Cases.feed(x, "d+5+5+5+5");
+    }
+
+    private static void promise39_allIsAsTheImageHasIt() {
+        ChapterLoan x = Cases.busy();
+        x.image();
+        changeAll(x);
+        due("WEEK", x.restore(), 3);
+        ChapterLoan y = Cases.busy();
+        y.image();
+        Cases.alike(x, y);
+    }
+
+    private static void promise39_theImageIsNotChanged() {
+        ChapterLoan x = Cases.busy();
+        x.image();
+        x.restore();
+        changeAll(x);
+        x.restore();
+        ChapterLoan y = Cases.busy();
+        y.image();
+        Cases.alike(x, y);
+    }
+
+    private static void promise39_addedAgainBehindIt() {
+        ChapterLoan x = Cases.busy();
+        x.image();
+        x.fact(1, 31);
+        x.clash(5, 0, 1);
+        x.explain(5, 3, 0);
+        x.debtor(69, 50);
+        x.weeks(2);
+        x.restore();
+        due("a FACT", x.fact(2, 4), 5);
+        int[] fact = {2, 0, 0, -1, 4, 0};
+        for (int what = 0; what < 6; what++) {
+            due("ofFact(5, " + what + ")", x.ofFact(5, what), fact[what]);
+        }
+        due("a DEBTOR", x.debtor(12, 7), 3);
+        int[] debtor = {1, 2, 7, 0, 0, 0};
+        for (int what = 0; what < 6; what++) {
+            due("ofDebtor(3, " + what + ")", x.ofDebtor(3, what), debtor[what]);
+        }
+    }
+
     private static void promise39_thereIsNone() {
         Cases.refused(NONE, () -> Cases.town(8, 0), x -> x.restore());
         Cases.refused(NONE, ChapterLoan::new, x -> x.restore());

@@ -359,6 +359,17 @@ public final class WouldBeBoundaryTest {
         Cases.refused(NONE, Cases::busy, x -> x.joined(1, 0));
     }
 
+    private static void promise23_theFirstAndTheLastFact() {
+        ChapterLoan x = Cases.town(8, 0, 0);
+        x.clash(0, 7, 1);
+        x.tells(0, 0);
+        x.tells(1, 6);
+        due("not yet", x.joined(0, 1), 65);
+        x.tells(1, 7);
+        due("0 and 7", x.joined(0, 1), NONE);
+        due("7 and 0", x.joined(1, 0), NONE);
+    }
+
     private static void promise23_aClashInsideOfOneBookAlone() {
         ChapterLoan x = Cases.town(3, 30, 0);
         x.clash(0, 1, 1);
