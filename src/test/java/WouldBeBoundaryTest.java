@@ -146,6 +146,49 @@ public final class WouldBeBoundaryTest {
         served(x, 0, 0, 1);
     }
 
+    /**
+     * 7 was told a WEEK ago. FACT 0 explains 7 and needs 1 .. 6, so it comes last, six WEEKS behind the first of
+     * them. It is to explain one of those within some WEEKS, and others, a set, within nine.
+     */
+    private static ChapterLoan lastExplains(int hasty, int within, int others) {
+        ChapterLoan x = new ChapterLoan();
+        x.fact(126, 0);
+        for (int f = 1; f <= 7; f++) {
+            x.fact(0, 0);
+            x.explain(f, f == 7 || (others >> f & 1) == 1 ? 9 : 0, 0);
+        }
+        x.explain(hasty, within, 0);
+        x.debtor(0, 0);
+        x.tells(0, 7);
+        x.weeks(1);
+        return x;
+    }
+
+    /** 1 .. 6 but for one, which comes in at a place, or where it would stand if that is later; then 0. */
+    private static int[] rowWith(int hasty, int place) {
+        int[] row = new int[7];
+        int next = 0;
+        for (int f = 1; f <= 6; f++) {
+            if (f != hasty) {
+                next += next == Math.max(place, hasty - 1) ? 1 : 0;
+                row[next] = f;
+                next++;
+            }
+        }
+        row[Math.max(place, hasty - 1)] = hasty;
+        return row;
+    }
+
+    private static void promise20_noEarlierThanItCanBeExplained() {
+        for (int hasty = 1; hasty <= 6; hasty++) {
+            for (int within = 1; within <= 7; within++) {
+                for (int others = 0; others < 128; others += 2) {
+                    served(lastExplains(hasty, within, others), 0, rowWith(hasty, 6 - within));
+                }
+            }
+        }
+    }
+
     private static void promise20_needsFirst() {
         ChapterLoan x = new ChapterLoan();
         x.fact(2, 0);
@@ -279,6 +322,16 @@ public final class WouldBeBoundaryTest {
         closed(x, 0, 1, 2, 3);
         x.explain(2, 9, 0);
         closed(x, 0, 2, 3);
+    }
+
+    private static void promise21_noEarlierThanItCanBeExplained() {
+        for (int hasty = 1; hasty <= 6; hasty++) {
+            for (int within = 1; within <= 7; within++) {
+                for (int others = 0; others < 128; others += 2) {
+                    closed(lastExplains(hasty, within, others), 0, rowWith(hasty, 6 - within));
+                }
+            }
+        }
     }
 
     private static void promise21_theFirstAsARow() {
